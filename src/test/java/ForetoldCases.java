@@ -61,13 +61,16 @@ final class ForetoldCases {
                 }
             }
         }
+        BirchLeaf x = Hills.with(Hills.ROUND);
+        x.most(0, 0, 0);
+        Checks.due(17, "behind most", x.sure(0, 0), 0);
         refusals(17);
     }
 
     private static void most() {
         BirchLeaf x = Hills.with(Hills.TWO);
-        Checks.due(18, "14 times, from 0", x.most(0, 0, 0), 7 * 30);
         Checks.due(18, "so often", x.most(0, 0, 1), 14);
+        Checks.due(18, "14 times, from 0", x.most(0, 0, 0), 7 * 30);
         Checks.due(18, "in 51", x.most(0, 51, 0), 30);
         Checks.due(18, "twice", x.most(0, 51, 1), 2);
         Checks.due(18, "in 55, once", x.most(0, 55, 0), 20);
@@ -79,9 +82,38 @@ final class ForetoldCases {
         BirchLeaf y = Hills.with("night 60 60;trader priest 99 0;trader priest 99 0;way 0 1 1 0;");
         Checks.due(18, "the greatest of all", y.most(0, 0, 0), 59 * 99);
         Checks.due(18, "59 times", y.most(0, 0, 1), 59);
+        waited();
         Checks.due(18, "what 2", x.most(0, 0, 2), Checks.BAD);
         Checks.due(18, "what -1", x.most(0, 0, -1), Checks.BAD);
         refusals(18);
+    }
+
+    /** The blind one takes it in even minutes alone, so each who passes it to him may have to wait. */
+    private static void waited() {
+        BirchLeaf x = Hills.with("night 16 0;trader blind 4 0;trader priest 3 0;way 0 1 3 0;");
+        Checks.due(18, "of 1 in 0, waiting once", x.most(1, 0, 0), 2 * 4 + 2 * 3);
+        Checks.due(18, "four times", x.most(1, 0, 1), 4);
+        Checks.due(18, "of 1 in 1, at once", x.most(1, 1, 0), 2 * 4 + 2 * 3);
+        Checks.due(18, "of 1 in 4, too late for one", x.most(1, 4, 0), 2 * 4 + 3);
+        Checks.due(18, "of 0 in 0", x.most(0, 0, 0), 2 * 4 + 3 * 3);
+        Checks.due(18, "of 1 in 12", x.most(1, 12, 0), 0);
+        Checks.due(18, "of 1 in 10, waiting", x.most(1, 10, 0), 4);
+        BirchLeaf six = Hills.with("night 60 60;trader priest 1 0;trader priest 2 0;trader priest 3 0;"
+                + "trader priest 4 0;trader priest 5 0;trader blind 50 0;"
+                + "way 0 1 1 0;way 1 2 1 0;way 2 3 1 0;way 3 4 1 0;way 4 5 2 0;");
+        Checks.due(18, "six of them", six.most(0, 50, 0), 2 + 3 + 4 + 5 + 50 + 5 + 4);
+        Checks.due(18, "so often", six.most(0, 50, 1), 7);
+        Checks.due(16, "the sixth's", six.worth(4, 0), 50);
+        Checks.due(19, "the sixth", six.last(0), 5);
+        Checks.due(19, "since", six.last(1), 58);
+        Checks.due(20, "the sixth", six.crow(5), 7);
+        Checks.due(21, "all six", six.where(0, 0, 0, 6), Checks.NULL);
+        six.row(0, 0, 0);
+        Checks.due(21, "all six in 6", six.where(0, 0, 0, 6), 63);
+        Checks.due(21, "five in 5", six.where(0, 0, 0, 5), 31);
+        Checks.due(21, "two in 1", six.where(0, 0, 0, 1), 3);
+        Hills.read(six, Hills.ALONE);
+        Checks.due(21, "one in 1, on another hill", six.where(0, 0, 0, 1), 1);
     }
 
     private static void fewest() {
@@ -211,6 +243,11 @@ final class ForetoldCases {
         Checks.due(21, "it was on the way in 3", x.where(0, 0, 2, 60), 0);
         seen(x, 0, 3);
         Checks.due(21, "so it did not come to 1", x.where(0, 0, 1, 60), 1);
+        seen(x, 1, 5, 0, 10);
+        Checks.due(21, "back", x.where(0, 0, 2, 60), 1);
+        Checks.due(21, "with him till 5", x.where(0, 0, 2, 5), 2);
+        seen(x, 1, 5, 0, 9);
+        Checks.due(21, "not back so soon", x.where(0, 0, 2, 60), 0);
         // It is with him yet in the minute in which he passes it.
         seen(x, 1, 7, 2, 11);
         Checks.due(21, "passed in 7", x.where(0, 0, 2, 60), 4);

@@ -94,6 +94,9 @@ final class NightCases {
         Checks.due(15, "the shortest of land", x.there(0, 1, 27), 32);
         Hills.read(x, "night 9 30;trader priest 1 1;trader priest 1 1;way 1 0 9 1;way 0 1 4 0;");
         Checks.due(15, "land is shorter", x.there(0, 1, 0), 4);
+        Hills.read(x, "night 9 1;trader priest 1 1;trader priest 1 1;way 1 0 1 1;");
+        Checks.due(15, "one minute of water", x.there(0, 1, 0), 1);
+        Checks.due(15, "one minute too late", x.there(0, 1, 1), Checks.NONE);
         Hills.read(x, "night 9 0;trader priest 1 1;trader priest 1 1;way 1 0 1 1;");
         Checks.due(15, "water 0", x.there(0, 1, 0), Checks.NONE);
     }

@@ -48,11 +48,12 @@ final class RowsCases {
         Checks.due(2, "found, the row stays", x.row(7, 0, -1), Checks.SIZE);
         Checks.due(2, "it had", x.drop(7), 40);
         x.row(3, 2, 2);
-        x.set(3, 1, 77);
+        x.set(3, 0, 5);
+        x.set(3, 1, 4);
         Checks.due(2, "in its place", x.row(3, 2, 3), 3);
-        x.row(4, 2, 1);
-        x.copy(3, 1, 4, 0, 1);
-        Checks.due(2, "0 at first, also anew", item(x, 3, 1, 2), 0);
+        for (int i = 0; i < 3; i++) {
+            Checks.due(2, "0 at first, also anew " + i, item(x, 3, i, 2), 0);
+        }
     }
 
     /** What stands in a row, 0 to 5: no call reads an item, but where() takes it for a trader. */

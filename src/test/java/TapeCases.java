@@ -128,6 +128,15 @@ final class TapeCases {
         fault("night30 20;trader baker1 2;x", 27, 1);
         fault("nightx 30 20;", 0, 1);
         fault("Night 30 20;", 0, 1);
+        fault("wight 30 20;", 0, 1);
+        fault("nighz 30 20;", 0, 1);
+        fault("nightz 30 20;", 0, 1);
+        fault("znight 30 20;", 0, 1);
+        fault("nighta 30 20;", 0, 1);
+        fault("night`30 20;", 5, 1);
+        fault("night{30 20;", 5, 1);
+        fault("night/30 20;", 5, 1);
+        fault("night:30 20;", 5, 1);
         fault("night 30 20,", 11, 1);
         fault("night\t30 20;", 5, 1);
         fault("night -3 20;", 6, 1);
