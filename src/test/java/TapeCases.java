@@ -15,6 +15,7 @@ final class TapeCases {
         numbers();
         room();
         stays();
+        ends();
     }
 
     private static void feed() {
@@ -208,5 +209,24 @@ final class TapeCases {
         Checks.due(7, "that one", x.count(3), 4);
         Checks.due(7, "a later fault", Hills.read(x, "x"), -1000100);
         Checks.due(8, "the later one", x.fault(), 1);
+    }
+
+    /** What stood behind the end in an earlier tape is no part of the next one; nor is there a byte 400. */
+    private static void ends() {
+        BirchLeaf x = new BirchLeaf();
+        Hills.read(x, "nightlynightly");
+        Checks.due(7, "a word at the end", Hills.read(x, "night"), -1000105);
+        Hills.read(x, "night 60000000");
+        Checks.due(7, "a number at the end", Hills.read(x, "night 60"), -1000108);
+        Hills.read(x, "night 60 0;;;;;");
+        Checks.due(7, "a sign at the end", Hills.read(x, "night 60 0;"), -1000111);
+        Checks.due(7, "400 letters", Hills.read(x, Hills.times("n", 400)), -1000100);
+        Checks.due(7, "400 figures", Hills.read(x, Hills.times("1", 400)), -1000100);
+        Checks.due(7, "400 gaps", Hills.read(x, Hills.times("\n", 400)), -1000500);
+        Checks.due(7, "400 signs", Hills.read(x, Hills.times(";", 400)), -1000100);
+        String part = NIGHT + Hills.times(" ", 400 - NIGHT.length() - 6);
+        Checks.due(7, "a word to the 400th", Hills.read(x, part + "trader"), -1000500);
+        Checks.due(7, "a whole hill to the 400th", Hills.read(x, NIGHT + Hills.times(" ", 400 - ONE.length())
+                + ONE.substring(NIGHT.length())), 1);
     }
 }
