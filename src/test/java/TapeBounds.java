@@ -146,6 +146,23 @@ final class TapeBounds {
         return text.toString();
     }
 
+    /** Each word of a hill with each of its letters another one, with none, with one more. */
+    private static List<String> likeWords() {
+        List<String> likes = new ArrayList<>();
+        for (String word : ("night trader way " + SORT).split(" ")) {
+            for (int i = 0; i < word.length(); i++) {
+                char sign = word.charAt(i);
+                String ahead = word.substring(0, i);
+                String behind = word.substring(i + 1);
+                likes.add(ahead + (sign == 'z' ? 'a' : (char) (sign + 1)) + behind);
+                likes.add(ahead + (sign == 'a' ? 'z' : (char) (sign - 1)) + behind);
+                likes.add(ahead + behind);
+                likes.add(ahead + sign + sign + behind);
+            }
+        }
+        return likes;
+    }
+
     /** The least FAULT of a token there; 0: none. */
     private static int due(String stands, String token, boolean secondOfWay) {
         if (!Character.isDigit(stands.charAt(0))) {
@@ -162,10 +179,12 @@ final class TapeBounds {
 
     /** 1 it cannot stand there, or is none; 2 a NUMBER that is not as told: at its first byte, with each gap. */
     private static void wrongTokens() {
+        List<String> pool = likeWords();
+        pool.addAll(Arrays.asList(POOL));
         for (String gap : new String[] {" ", "\n", " \n  "}) {
             for (int i = 0; i < WHOLE.length; i++) {
                 String ahead = gap.length() > 1 ? gap + join(WHOLE, i, gap) : join(WHOLE, i, gap);
-                for (String token : POOL) {
+                for (String token : pool) {
                     boolean alike = (i == 16 || i == 22) && token.matches("0*" + WHOLE[i - 1]);
                     int number = due(STANDS[i], token, alike);
                     if (number != 0) {
