@@ -13,6 +13,7 @@ final class AskBounds {
         asFound();
         asOthers();
         askRefused();
+        askAlone();
         askTrace();
         askAll();
         askAfresh();
@@ -28,7 +29,7 @@ final class AskBounds {
         for (int trader : new int[] {-1, 5, 6, LEAST, GREATEST}) {
             Twins.refused(24, "kind of " + trader, Stages::taped, x -> x.kind(trader), Checks.BAD);
         }
-        Twins.refused(24, "no hill", Stages::nothing, x -> x.kind(0), Checks.BAD);
+        Twins.refused(24, "no hill", Stages::bare, x -> x.kind(0), Checks.BAD);
         for (int trader = 0; trader < 5; trader++) {
             int one = trader;
             Twins.only(24, "kind of " + one, Stages::taped, x -> x.kind(one), one + 1);
@@ -41,7 +42,7 @@ final class AskBounds {
     }
 
     private static void asRefused() {
-        Twins.refused(25, "no hill", Stages::nothing, x -> x.as(0, 0), Checks.BAD);
+        Twins.refused(25, "no hill", Stages::bare, x -> x.as(0, 0), Checks.BAD);
         for (int far : new int[] {-1, 6, 7, LEAST, GREATEST}) {
             Twins.refused(25, "kind " + far, Stages::taped, x -> x.as(0, far), Checks.BAD);
             Twins.refused(25, "trader " + far, Stages::taped, x -> x.as(far, 0), Checks.BAD);
@@ -87,7 +88,7 @@ final class AskBounds {
     }
 
     private static void askRefused() {
-        Twins.refused(26, "no hill", Stages::nothing, x -> x.ask(0, 0), Checks.BAD);
+        Twins.refused(26, "no hill", Stages::bare, x -> x.ask(0, 0), Checks.BAD);
         for (int what = 0; what <= 1; what++) {
             int w = what;
             for (int trader : new int[] {-1, 5, 6, LEAST, GREATEST}) {
@@ -97,7 +98,22 @@ final class AskBounds {
         for (int what : new int[] {-1, 2, 10, 20, LEAST, GREATEST}) {
             Twins.refused(26, "ask " + what, Stages::taped, x -> x.ask(0, what), Checks.BAD);
         }
-        Twins.only(26, "asked again, the trace is the same", Stages::taped, x -> x.ask(3, 1), 3 - (5 - 100));
+    }
+
+    /** Nothing but THE TRACE becomes another: by one more, it is as it was. */
+    private static void askAlone() {
+        int[][] due = {{35, 15}, {-31 + 28, -28}, {9 - 998, -998}, {-95, 98}, {-172, 176}};
+        for (int trader = 0; trader < due.length; trader++) {
+            for (int what = 0; what <= 1; what++) {
+                int one = trader;
+                int w = what;
+                Twins.only(26, trader + " asked " + what, Stages::taped, x -> {
+                    int answer = x.ask(one, w);
+                    x.ask(3, 1);
+                    return answer;
+                }, due[one][w]);
+            }
+        }
     }
 
     private static void asked(BirchLeaf x, int trader, int what, int due, int... bodies) {
@@ -189,7 +205,7 @@ final class AskBounds {
     private static void countRefused() {
         for (int what : new int[] {-1, 8, 9, LEAST, GREATEST}) {
             Twins.refused(28, "count " + what, Stages::taped, x -> x.count(what), Checks.BAD);
-            Twins.refused(28, "count " + what + " of none", Stages::nothing, x -> x.count(what), Checks.BAD);
+            Twins.refused(28, "count " + what + " of none", Stages::bare, x -> x.count(what), Checks.BAD);
         }
     }
 

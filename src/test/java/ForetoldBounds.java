@@ -52,7 +52,7 @@ final class ForetoldBounds {
         Twins.refused(promise, what + " in 61", much, x -> asked.of(x, 0, 61), Checks.BAD);
         Twins.refused(promise, what + " far", much, x -> asked.of(x, 0, GREATEST), Checks.BAD);
         Twins.refused(promise, what + " far below", much, x -> asked.of(x, 0, LEAST), Checks.BAD);
-        Twins.refused(promise, what + " without a hill", Stages::nothing, x -> asked.of(x, 0, 0), Checks.BAD);
+        Twins.refused(promise, what + " without a hill", Stages::bare, x -> asked.of(x, 0, 0), Checks.BAD);
         Twins.only(promise, what + " in 60", much, x -> asked.of(x, 4, 60), 0);
         for (int traders = 1; traders <= 6; traders++) {
             BirchLeaf x = Hills.with("night 9 9;" + Hills.times("trader priest 8 7;", traders));
@@ -218,10 +218,10 @@ final class ForetoldBounds {
     private static void lastRefused() {
         for (int what : new int[] {-1, 2, 3, LEAST, GREATEST}) {
             Twins.refused(19, "what " + what, Stages::taped, x -> x.last(what), Checks.BAD);
-            Twins.refused(19, "no hill ahead of BAD, " + what, Stages::nothing, x -> x.last(what), Checks.STATE);
+            Twins.refused(19, "no hill ahead of BAD, " + what, Stages::bare, x -> x.last(what), Checks.STATE);
         }
-        Twins.refused(19, "no hill, who", Stages::nothing, x -> x.last(0), Checks.STATE);
-        Twins.refused(19, "no hill, since", Stages::nothing, x -> x.last(1), Checks.STATE);
+        Twins.refused(19, "no hill, who", Stages::bare, x -> x.last(0), Checks.STATE);
+        Twins.refused(19, "no hill, since", Stages::bare, x -> x.last(1), Checks.STATE);
     }
 
     private static void last(String what, BirchLeaf x, int who, int since) {
@@ -288,7 +288,7 @@ final class ForetoldBounds {
         for (int trader : new int[] {-1, 5, 6, LEAST, GREATEST}) {
             Twins.refused(20, "crow of " + trader, Stages::taped, x -> x.crow(trader), Checks.BAD);
         }
-        Twins.refused(20, "no hill", Stages::nothing, x -> x.crow(0), Checks.BAD);
+        Twins.refused(20, "no hill", Stages::bare, x -> x.crow(0), Checks.BAD);
         for (int traders = 1; traders <= 6; traders++) {
             BirchLeaf x = Hills.with("night 9 9;" + Hills.times("trader priest 8 7;", traders));
             Checks.due(20, "the last of " + traders, x.crow(traders - 1), traders == 1 ? 1 : Checks.NONE);
@@ -346,10 +346,10 @@ final class ForetoldBounds {
     }
 
     private static void whereRefused() {
-        Twins.refused(21, "no hill", Stages::nothing, x -> x.where(0, 0, 0, 0), Checks.STATE);
-        Twins.refused(21, "no hill ahead of BAD row", Stages::nothing, x -> x.where(8, 0, 0, 0), Checks.STATE);
-        Twins.refused(21, "no hill ahead of BAD n", Stages::nothing, x -> x.where(0, 0, 11, 0), Checks.STATE);
-        Twins.refused(21, "no hill ahead of BAD t", Stages::nothing, x -> x.where(0, 0, 0, 61), Checks.STATE);
+        Twins.refused(21, "no hill", Stages::bare, x -> x.where(0, 0, 0, 0), Checks.STATE);
+        Twins.refused(21, "no hill ahead of BAD row", Stages::bare, x -> x.where(8, 0, 0, 0), Checks.STATE);
+        Twins.refused(21, "no hill ahead of BAD n", Stages::bare, x -> x.where(0, 0, 11, 0), Checks.STATE);
+        Twins.refused(21, "no hill ahead of BAD t", Stages::bare, x -> x.where(0, 0, 0, 61), Checks.STATE);
         Twins.refused(21, "no hill ahead of PLACE", x -> x.row(0, 0, 0), x -> x.where(0, 0, 1, 0), Checks.STATE);
         whereRefused("row below 0", -1, 0, 0, 0, Checks.BAD);
         whereRefused("row 8", 8, 0, 0, 0, Checks.BAD);

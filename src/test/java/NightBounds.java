@@ -54,7 +54,14 @@ final class NightBounds {
             Checks.due(13, "the last of " + traders, x.trader(traders - 1, 0), 8);
             Checks.due(13, "none behind " + traders, x.trader(traders, 0), Checks.BAD);
         }
-        Twins.only(13, "asked, nothing changes", much, x -> x.trader(1, 3), -15);
+        int[][] shows = {{20, 30, 20, 15}, {31, 25, 15, -15}, {9, 60, 9, 0}, {5, 0, 5, 0}, {14, 10, 14, 0}};
+        for (int trader = 0; trader < shows.length; trader++) {
+            for (int what = 0; what <= 3; what++) {
+                int one = trader;
+                int w = what;
+                Twins.only(13, "told, nothing changes", much, x -> x.trader(one, w), shows[one][w]);
+            }
+        }
     }
 
     /** GIVES; of a miller half of it, cut. */
@@ -261,7 +268,7 @@ final class NightBounds {
 
     private static void waitsRefused() {
         for (int n : new int[] {-1, 0, 1, 60, 61, LEAST, GREATEST}) {
-            Twins.refused(10, "no hill ahead of all: " + n, Stages::nothing, x -> x.waits(n), Checks.STATE);
+            Twins.refused(10, "no hill ahead of all: " + n, Stages::bare, x -> x.waits(n), Checks.STATE);
         }
         for (int n : new int[] {-1, 0, 61, 62, LEAST, GREATEST}) {
             Twins.refused(10, "BAD " + n, Stages::taped, x -> x.waits(n), Checks.BAD);
@@ -300,7 +307,7 @@ final class NightBounds {
 
     private static void bribeRefused() {
         for (int d : new int[] {-1, 0, 1, 60, 61, LEAST, GREATEST}) {
-            Twins.refused(11, "no hill ahead of all: " + d, Stages::nothing, x -> x.bribe(d), Checks.STATE);
+            Twins.refused(11, "no hill ahead of all: " + d, Stages::bare, x -> x.bribe(d), Checks.STATE);
         }
         for (int d : new int[] {-1, 0, 61, LEAST, GREATEST}) {
             Twins.refused(11, "BAD " + d, Stages::taped, x -> x.bribe(d), Checks.BAD);
@@ -329,7 +336,7 @@ final class NightBounds {
     }
 
     private static void undoRefused() {
-        Twins.refused(12, "no hill", Stages::nothing, x -> x.undo(), Checks.STATE);
+        Twins.refused(12, "no hill", Stages::bare, x -> x.undo(), Checks.STATE);
         Twins.refused(12, "no act yet", Stages::first, x -> x.undo(), Checks.STATE);
         Twins.refused(12, "behind a restore", x -> {
             Stages.taped(x);
@@ -470,10 +477,10 @@ final class NightBounds {
     private static void imageRefused() {
         for (int k : new int[] {-1, 2, 3, LEAST, GREATEST}) {
             Twins.refused(22, "image " + k, Stages::taped, x -> x.image(k), Checks.BAD);
-            Twins.refused(22, "BAD ahead of no hill, " + k, Stages::nothing, x -> x.image(k), Checks.BAD);
+            Twins.refused(22, "BAD ahead of no hill, " + k, Stages::bare, x -> x.image(k), Checks.BAD);
         }
-        Twins.refused(22, "no hill, 0", Stages::nothing, x -> x.image(0), Checks.STATE);
-        Twins.refused(22, "no hill, 1", Stages::nothing, x -> x.image(1), Checks.STATE);
+        Twins.refused(22, "no hill, 0", Stages::bare, x -> x.image(0), Checks.STATE);
+        Twins.refused(22, "no hill, 1", Stages::bare, x -> x.image(1), Checks.STATE);
     }
 
     private static void imageKeeps() {
@@ -567,7 +574,7 @@ final class NightBounds {
     private static void restoreRefused() {
         for (int k : new int[] {-1, 2, 3, LEAST, GREATEST}) {
             Twins.refused(23, "restore " + k, Stages::taped, x -> x.restore(k), Checks.BAD);
-            Twins.refused(23, "BAD ahead of none kept, " + k, Stages::nothing, x -> x.restore(k), Checks.BAD);
+            Twins.refused(23, "BAD ahead of none kept, " + k, Stages::bare, x -> x.restore(k), Checks.BAD);
         }
         Twins.refused(23, "image 1 is none", Stages::taped, x -> x.restore(1), Checks.STATE);
         Twins.refused(23, "image 0 is none", Stages::first, x -> x.restore(0), Checks.STATE);

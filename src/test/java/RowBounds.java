@@ -27,10 +27,14 @@ final class RowBounds {
     }
 
     private static void noHill() {
-        Twins.Ahead none = Stages::nothing;
         for (int what = 0; what <= 7; what++) {
             Checks.due(1, "none of count " + what, new BirchLeaf().count(what), 0);
         }
+        withoutHill(Stages::nothing);
+        withoutHill(Stages::bare);
+    }
+
+    private static void withoutHill(Twins.Ahead none) {
         Twins.refused(1, "no trader 0 to pass to", none, x -> x.pass(0), Checks.BAD);
         Twins.refused(1, "no trader 0", none, x -> x.trader(0, 0), Checks.BAD);
         Twins.refused(1, "none that takes it", none, x -> x.takes(0, 0), Checks.BAD);
@@ -253,7 +257,7 @@ final class RowBounds {
     }
 
     private static void copyRefused() {
-        Twins.Ahead much = Stages::taped;
+        Twins.Ahead much = Stages::takenTaped;
         Twins.refused(4, "a below 0", much, x -> x.copy(-1, 0, 0, 0, 1), Checks.BAD);
         Twins.refused(4, "a 8", much, x -> x.copy(8, 0, 0, 0, 1), Checks.BAD);
         Twins.refused(4, "b below 0", much, x -> x.copy(0, 0, -1, 0, 1), Checks.BAD);
@@ -273,7 +277,7 @@ final class RowBounds {
     }
 
     private static void copyFindings() {
-        Twins.Ahead much = Stages::taped;
+        Twins.Ahead much = Stages::takenTaped;
         int[][] lanes = {{0, 1}, {1, 0}, {0, 2}, {2, 0}, {1, 2}, {2, 1}, {3, 1}, {2, 3}};
         for (int[] two : lanes) {
             String what = two[0] + " to " + two[1];
@@ -286,12 +290,12 @@ final class RowBounds {
         }
     }
 
-    /** Rows 4 and 5 of five and three items, bytes; then what copy finds of these. */
+    /** Rows 4 and 5 of five and three items, bytes; then what as() finds. */
     private static void pair(BirchLeaf x) {
-        Stages.taped(x);
+        Stages.takenTaped(x);
         Stages.fill(x, 4, 0, 1, 2, 3, 4, 5);
         Stages.fill(x, 5, 0, 5, 0, 1);
-        x.copy(0, 0, 1, 0, 1);
+        x.as(0, 5);
     }
 
     private static void place(String what, int a, int i, int b, int j, int n) {
@@ -328,7 +332,7 @@ final class RowBounds {
     private static void copied(String what, int a, int i, int b, int j, int n, int... due) {
         BirchLeaf x = new BirchLeaf();
         pair(x);
-        Checks.due(29, "a finding ahead", x.status(), 5);
+        Checks.due(29, "a finding ahead", x.status(), 3);
         Checks.due(4, what, x.copy(a, i, b, j, n), n);
         Checks.due(29, "none of " + what, x.status(), 0);
         int[] items = Shown.items(x, b, 0, due.length);
@@ -447,6 +451,9 @@ final class RowBounds {
 
     /** Calls with no row leave it, whatever they answer. */
     private static void statusOfOthers() {
+        Twins.only(29, "told", Stages::taped, x -> x.status(), 5);
+        Twins.only(29, "told without a hill", Stages::bare, x -> x.status(), 5);
+        Twins.only(29, "0 told", Stages::first, x -> x.status(), 0);
         BirchLeaf x = Hills.with(Hills.TWO);
         found(x);
         Twins.Call[] others = {y -> y.feed(32, 1), y -> y.feed(32, 0), y -> y.hill(), y -> y.fault(), y -> y.pass(1),

@@ -440,7 +440,7 @@ final class TapeBounds {
         for (int i = 0; i < texts.length; i++) {
             String text = texts[i];
             int want = -1000100 - places[i];
-            Twins.but(7, "a fault leaves all: " + text, Stages::much, x -> Hills.read(x, text), want, "fault", numbers[i]);
+            Twins.but(7, "a fault leaves all: " + text, Stages::taken, x -> Hills.read(x, text), want, "fault", numbers[i]);
             Twins.but(7, "a fault leaves no hill: " + text, Stages::nothing, x -> Hills.read(x, text), want, "fault",
                     numbers[i]);
         }
@@ -512,6 +512,9 @@ final class TapeBounds {
     }
 
     private static void latestFault() {
+        Twins.only(8, "told", Stages::taped, x -> x.fault(), 2);
+        Twins.only(8, "told without a hill", Stages::bare, x -> x.fault(), 2);
+        Twins.only(8, "0 told", Stages::taken, x -> x.fault(), 0);
         BirchLeaf x = new BirchLeaf();
         Checks.due(8, "0 before one", x.fault(), 0);
         Hills.feed(x, "night 0");
